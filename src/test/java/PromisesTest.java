@@ -340,6 +340,9 @@ public final class PromisesTest {
         boolean small = true;
         for (int f = 1; f <= 300; f++) small = small && Math.abs(z.worth(f, 0)) < 1L << 40;
         due("always less than 2^40", small ? 1 : 0, 1);
+        int[] atPlaces = {200, 10, 50, 120, 400, 300};
+        for (int k = 0; k < 6; k++) z.hole(atPlaces[k], 20 + k, k);
+        due("twelve pieces and six holes", z.worth(77, 63), 7960632641L);
     }
 
     private static void tone() {
@@ -523,7 +526,6 @@ public final class PromisesTest {
     /** Rounds of one hole: what each did must be the first of its best moves. */
     private static void roundMoves() {
         promise = "19 round, moves";
-        boolean[] seen = new boolean[4];
         int[][] starts = {{60, 10, 1}, {60, 10, 300}, {150, 3, 60}, {30, 50, 5}, {100, 20, 14}, {199, 60, 30}, {1, 1, 9}};
         for (int[] s : starts) {
             BoredPipes x = oneHole(s[0], s[1], s[2]);
@@ -542,13 +544,11 @@ public final class PromisesTest {
                     }
                 }
                 due("round", x.round(), bestMove == NONE ? 0 : 1);
-                if (bestMove != NONE) seen[bestMove] = true;
                 due("place", x.bored(0, 0), bestMove == NONE ? place : then[bestMove][0]);
                 due("size", x.bored(0, 1), bestMove == NONE ? size : then[bestMove][1]);
                 due("sum", x.count(9), least);
             }
         }
-        due("some move was seen", seen[0] || seen[1] || seen[2] || seen[3] ? 1 : 0, 1);
     }
 
     /** Where the next SIZE of the drills helps, though the nearest numbers would not. */
@@ -569,7 +569,7 @@ public final class PromisesTest {
         due("the next less drill", x.bored(0, 1), 3);
     }
 
-    /** A hole, open in the one note, that a round moves towards 100 or 1 by a step; the others are tiny and shut. */
+    /** A hole, open in the one note, that a round moves by a step; the others are tiny and shut. */
     private static BoredPipes among(int place, int wanted, int reach, int... others) {
         BoredPipes x = new BoredPipes();
         x.piece(200, 15);
@@ -603,6 +603,89 @@ public final class PromisesTest {
             moves("one that is not next to it", among(from, wanted, 3, from + 2 * side, from + 3 * side), from + side);
             moves("the next one counts", among(from, wanted, 4, from + 8 * side, from + 4 * side), from);
         }
+    }
+
+    /**
+     * One hole, one note, moves like good: {length, bore, length, bore, mouth, far end, place, size,
+     * chimney, which, wanted, less drill, greater drill, move done}.
+     */
+    private static final int[][] LIKE_GOOD = {
+        {41, 25, 19, 65, 1, 0, 29, 36, 49, 5, 201, 1, 60, 0},
+        {27, 55, 79, 86, 0, 0, 63, 52, 17, 3, 106, 1, 60, 0},
+        {31, 9, 43, 30, 0, 1, 33, 15, 54, 1, 19, 2, 59, 0},
+        {76, 20, 93, 57, 0, 1, 55, 56, 51, 2, 80, 1, 60, 1},
+        {24, 16, 13, 21, 0, 1, 2, 28, 59, 2, 102, 3, 47, 1},
+        {22, 54, 9, 16, 1, 1, 16, 9, 23, 0, 49, 1, 60, 2},
+        {34, 53, 52, 3, 0, 0, 42, 14, 6, 5, 25, 1, 60, 0}};
+
+    private static void roundLikeGood() {
+        promise = "19 round, like good moves";
+        for (int[] t : LIKE_GOOD) {
+            BoredPipes x = new BoredPipes();
+            x.piece(t[0], t[1]);
+            x.piece(t[2], t[3]);
+            x.end(0, t[4]);
+            x.end(1, t[5]);
+            x.hole(t[6], t[7], t[8]);
+            x.note(1, t[9], t[10]);
+            for (int s = 1; s <= 60; s++) x.drill(s, s == t[11] || s == t[12]);
+            due("round", x.round(), 1);
+            due("place", x.bored(0, 0), t[6] + (t[13] == 0 ? 1 : t[13] == 1 ? -1 : 0));
+            due("size", x.bored(0, 1), t[13] == 2 ? t[12] : t[13] == 3 ? t[11] : t[7]);
+        }
+    }
+
+    /**
+     * Two holes, like good moves of both: {length, bore, places, sizes, chimney, which, wanted, then
+     * place and size of hole 0}.
+     */
+    private static final int[][] BOTH_HOLES = {
+        {77, 3, 16, 68, 52, 33, 45, 0, 32, 15, 52},
+        {37, 26, 8, 27, 45, 29, 11, 0, 106, 9, 45},
+        {67, 37, 28, 46, 20, 45, 8, 0, 60, 28, 21},
+        {50, 12, 24, 8, 30, 52, 43, 0, 279, 24, 31},
+        {67, 2, 30, 65, 5, 37, 51, 2, 82, 30, 4}};
+
+    private static void roundHolesInOrder() {
+        promise = "19 round, holes in order";
+        for (int[] t : BOTH_HOLES) {
+            BoredPipes x = new BoredPipes();
+            x.piece(t[0], t[1]);
+            x.hole(t[2], t[4], t[6]);
+            x.hole(t[3], t[5], t[6]);
+            x.note(3, t[7], t[8]);
+            due("round", x.round(), 1);
+            due("place of hole 0", x.bored(0, 0), t[9]);
+            due("size of hole 0", x.bored(0, 1), t[10]);
+            due("place of hole 1", x.bored(1, 0), t[3]);
+            due("size of hole 1", x.bored(1, 1), t[5]);
+        }
+    }
+
+    /** GREATEST less goes before SUM less: the move done makes SUM more, another would have made it less. */
+    private static void roundGreatestFirst() {
+        promise = "19 round, GREATEST first";
+        BoredPipes x = new BoredPipes();
+        x.piece(85, 3);
+        x.hole(33, 39, 24);
+        for (int wanted : new int[] {125, 116, 125}) x.note(1, 4, wanted);
+        due("greatest", x.count(8), 6);
+        due("sum", x.count(9), 12);
+        due("round", x.round(), 1);
+        due("place", x.bored(0, 0), 34);
+        due("greatest", x.count(8), 5);
+        due("sum", x.count(9), 14);
+        BoredPipes y = new BoredPipes();
+        y.piece(43, 4);
+        y.hole(41, 32, 30);
+        y.note(1, 2, 152);
+        y.note(1, 1, 95);
+        y.note(1, 5, 294);
+        due("greatest and sum", y.count(8) * 100 + y.count(9), 610);
+        due("round", y.round(), 1);
+        due("greatest and sum", y.count(8) * 100 + y.count(9), 411);
+        due("place", y.bored(0, 0), 40);
+        due("size", y.bored(0, 1), 32);
     }
 
     private static void keepAndBack() {
@@ -728,6 +811,9 @@ public final class PromisesTest {
         roundMoves();
         roundDrills();
         roundReach();
+        roundLikeGood();
+        roundHolesInOrder();
+        roundGreatestFirst();
         keepAndBack();
         roundsAfterBack();
         differs();
