@@ -15,6 +15,8 @@ public final class BoredPipes {
     private static final int MISS_WITHOUT_TONE = 300;
     // One more than the greatest SUM, so that a rank holds GREATEST and SUM, GREATEST first.
     private static final int SUMS = MOST_NOTES * MISS_WITHOUT_TONE + 1;
+    // More than any rank.
+    private static final int NO_BOUND = SUMS * SUMS;
 
     private final Pipe pipe = new Pipe();
     private final Shelf firstShelf = new Shelf();
@@ -107,8 +109,8 @@ public final class BoredPipes {
             case 5: return pipe.farEnd;
             case 6: return reach;
             case 7: return Long.bitCount(drills);
-            case 8: return rank(Integer.MAX_VALUE) / SUMS;
-            case 9: return rank(Integer.MAX_VALUE) % SUMS;
+            case 8: return rank(NO_BOUND) / SUMS;
+            case 9: return rank(NO_BOUND) % SUMS;
             case 10: return rounds;
             default: return OUTSIDE;
         }
@@ -187,7 +189,7 @@ public final class BoredPipes {
 
     public int round() {
         if (pipe.pieces == 0 || pipe.holes == 0 || notes.many == 0) return NOT;
-        best.none(rank(Integer.MAX_VALUE));
+        best.none(rank(NO_BOUND));
         for (int h = 0; h < pipe.holes; h++) {
             tryMove(h, PLACE, placeMoved(h, 1));
             tryMove(h, PLACE, placeMoved(h, -1));

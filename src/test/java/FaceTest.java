@@ -91,12 +91,15 @@ public final class FaceTest {
         for (char c : text.toCharArray()) holds(c == '\n' || c >= 32 && c < 127, "a sign that is not plain: " + (int) c);
         String code = text.replaceAll("(?s)/\\*.*?\\*/", " ").replaceAll("//[^\n]*", " ");
         String[] banned = {"throw", "throws", "try", "catch", "finally", "synchronized", "assert", "import", "package",
-            "double", "float", "System", "Thread", "Random", "Object", "volatile", "native", "var"};
+            "double", "float", "System", "Thread", "Random", "Object", "volatile", "native", "var", "Integer", "String"};
         for (String w : banned) {
             holds(!java.util.regex.Pattern.compile("\\b" + w + "\\b").matcher(code).find(), "the source says " + w);
         }
         holds(!code.contains("->") && !code.contains("::") && !code.contains("\"") && !code.contains("Exact("),
             "the source has a lambda, a method reference, a text or an exact sum");
+        String library = "Long.bitCount Math.abs Math.max Math.min";
+        java.util.regex.Matcher used = java.util.regex.Pattern.compile("\\b(Math|Long)\\.\\w+").matcher(code);
+        while (used.find()) holds(library.contains(used.group()), "not of the library: " + used.group());
         int arrays = code.split("new int\\[", -1).length - 1;
         int rows = code.split("final int\\[\\] \\w+ = new int\\[MOST", -1).length - 1;
         holds(arrays == rows, "an array is made elsewhere than in a field of its object");

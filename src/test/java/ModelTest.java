@@ -378,8 +378,10 @@ public final class ModelTest {
         final StringBuilder run = new StringBuilder();
         int calls = 0;
 
+        /** The document promises nothing of an object's 513th call. */
         void same(String call, long got, long due) {
             calls++;
+            if (calls > 512) throw new IllegalStateException("too many calls of one object");
             run.append(call).append(" = ").append(due).append('\n');
             if (got == due) return;
             System.out.println(run + "the last call answered " + got);
@@ -556,7 +558,7 @@ public final class ModelTest {
             boolean has = r.nextBoolean();
             x.same("drill " + d + " " + has, x.real.drill(d, has), x.model.drill(d, has));
         }
-        for (int k = 0; k < 6; k++) {
+        for (int k = 0; k < 5; k++) {
             x.same("round", x.real.round(), x.model.round());
             wholeState(x);
         }
@@ -566,8 +568,10 @@ public final class ModelTest {
         BoredPipes x = new BoredPipes();
         Model m = new Model();
         for (int t = -1; t <= 65536; t++) {
-            if (x.sine(t) != m.sine(t)) {
-                System.out.println("sine " + t + " answered " + x.sine(t) + ", due is " + m.sine(t));
+            if (t % 500 == 0) x = new BoredPipes();
+            long got = x.sine(t);
+            if (got != m.sine(t)) {
+                System.out.println("sine " + t + " answered " + got + ", due is " + m.sine(t));
                 System.exit(1);
             }
         }

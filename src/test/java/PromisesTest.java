@@ -354,10 +354,14 @@ public final class PromisesTest {
         due("outside before not", x.tone(0, -2), OUTSIDE);
         x.piece(100, 20);
         int many = 0;
+        boolean above = x.worth(1, 0) > 0;
         for (int f = 1; f < 300; f++) {
-            if (x.worth(f, 0) > 0 == x.worth(f + 1, 0) > 0) continue;
-            due("tone " + many, x.tone(0, many), f);
-            many++;
+            boolean aboveNext = x.worth(f + 1, 0) > 0;
+            if (above != aboveNext) {
+                due("tone " + many, x.tone(0, many), f);
+                many++;
+            }
+            above = aboveNext;
         }
         due("how many", x.tone(0, NONE), many);
         due("behind the last", x.tone(0, many), NONE);
