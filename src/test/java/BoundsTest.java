@@ -956,6 +956,66 @@ public final class BoundsTest {
         for (int k = 0; k < 6; k++) due("room for notes", y.note(0, 0, 1), k);
     }
 
+    private static BoredPipes drawn(BoredPipes x) {
+        x.cone(20, 10, 32, 12);
+        for (int k = 0; k < 6; k++) x.hole(30 + 20 * k, 5 + k, k);
+        for (int k = 0; k < 6; k++) x.note(1 << k, k, 50 + k);
+        return x;
+    }
+
+    private static BoredPipes drawnSmall(BoredPipes x) {
+        x.piece(61, 14);
+        x.piece(40, 20);
+        for (int k = 0; k < 3; k++) due("hole " + k, x.hole(50 + 20 * (k % 2) + k / 2, 5, k), k);
+        x.note(7, 0, 60);
+        return x;
+    }
+
+    private static void same(String what, BoredPipes one, BoredPipes other) {
+        checks++;
+        if (state(one).equals(state(other))) return;
+        wrong++;
+        System.out.println(sentence + ": " + what);
+    }
+
+    /** What was there and is not any more: no place is taken by it, no stretch ends at it. */
+    private static void nothingLeftByClear() {
+        BoredPipes x = drawn(new BoredPipes());
+        x.end(MOUTH, REED);
+        x.end(FAR_END, SHUT);
+        x.clear();
+        same("as at first", x, new BoredPipes());
+        BoredPipes y = drawn(new BoredPipes());
+        y.clear();
+        same("another pipe", drawnSmall(y), drawnSmall(new BoredPipes()));
+        BoredPipes z = drawn(new BoredPipes());
+        z.clear();
+        same("the same pipe", drawn(z), drawn(new BoredPipes()));
+    }
+
+    private static void nothingLeftByBack() {
+        BoredPipes x = drawnSmall(new BoredPipes());
+        x.keep(0);
+        x.cone(5, 60, 70, 10);
+        for (int k = 0; k < 3; k++) x.hole(20 + 10 * k, 60, 0);
+        x.back(0);
+        BoredPipes due = drawnSmall(new BoredPipes());
+        due.keep(0);
+        for (int k = 0; k < 3; k++) due("a hole where one was, " + k, x.hole(20 + 10 * k, 9, 9), 3 + k);
+        for (int k = 0; k < 3; k++) due.hole(20 + 10 * k, 9, 9);
+        same("holes again", x, due);
+        BoredPipes y = drawnSmall(new BoredPipes());
+        y.keep(0);
+        BoredPipes without = drawnSmall(new BoredPipes());
+        without.keep(0);
+        y.hole(20, 60, 0);
+        y.piece(7, 7);
+        y.back(0);
+        for (int f = 7; f <= 300; f += 31) due("worth " + f, y.worth(f, 63), without.worth(f, 63));
+        due("round", y.round(), without.round());
+        same("the small one", y, without);
+    }
+
     private static void toldBounds() {
         BoredPipes x = full();
         due("length of the first", x.told(0, 0), 20);
@@ -1367,6 +1427,7 @@ public final class BoundsTest {
         test("Promise 5: what 0, 1, 2", BoundsTest::setWhatNoughtTo2);
         test("Promise 5: UNKNOWN", BoundsTest::setUnknown);
         test("Promise 7: all but THE DRILLS, REACH and SHELVES", BoundsTest::clearAllBut);
+        test("Promise 7: as at first", BoundsTest::nothingLeftByClear);
         test("Promise 8: PIECE, what", BoundsTest::toldBounds);
         test("Promise 9: HOLE, what", BoundsTest::boredBounds);
         test("Promise 9: the PIECE in which it is (at the end of one: that one)", BoundsTest::pieceOfAHole);
@@ -1387,6 +1448,7 @@ public final class BoundsTest {
         test("Promises 21, 22: NOT, it is empty", BoundsTest::emptyShelves);
         test("Promises 20, 21: a full one", BoundsTest::keepAndBackFull);
         test("Promise 21: back to less", BoundsTest::backToLess);
+        test("Promise 21: THE PIPE becomes what the SHELF has", BoundsTest::nothingLeftByBack);
         test("Promise 22: all that may differ", BoundsTest::differsOfAll);
         test("Promise 22: by numbers", BoundsTest::differsByNumbers);
     }
